@@ -643,7 +643,7 @@ public final class MatchCompile {
             }
             set(added, PARENT, parent);
             set(added, MAKER, maker);
-            if (has(parent)) {
+            if (parent != NONE) {
                 hang(added, parent);
             }
             return added;
@@ -685,9 +685,6 @@ public final class MatchCompile {
             }
             if (what == WHAT_MAKER) {
                 return get(node, MAKER);
-            }
-            if (what < KIND) {
-                return NONE;
             }
             if (what <= BRANCHES) {
                 return get(node, what);
@@ -760,16 +757,13 @@ public final class MatchCompile {
             set(parent, BRANCHES, branches + 1);
         }
 
-        private boolean has(int node) {
-            return node >= 0 && node < count && node < MAX_NODES;
-        }
-
         private int get(int node, int field) {
-            return has(node) && field >= 0 && field < SIZE ? cells[node * SIZE + field] : NONE;
+            boolean there = node >= 0 && node < count && field >= 0 && field < SIZE;
+            return there ? cells[node * SIZE + field] : NONE;
         }
 
         private void set(int node, int field, int number) {
-            if (has(node) && field >= 0 && field < SIZE) {
+            if (node >= 0 && node < count && field >= 0 && field < SIZE) {
                 cells[node * SIZE + field] = number;
             }
         }
@@ -779,6 +773,7 @@ public final class MatchCompile {
      * The pile of working tables, in one array that grows as it must and is used again. A table is a
      * head, the types of its places, and its lines: each a row and a cell for each place. A cell is
      * the name of a pattern in the rows, or ANY; a pattern that is ANY by itself has the cell ANY too.
+     * How many places and lines the table on top has stands in fields, and in its head when it waits.
      */
     private static final class Tables {
         private static final int BELOW = 0;
@@ -795,6 +790,8 @@ public final class MatchCompile {
         private final Rows rows;
         private int[] room;
         private int top;
+        private int places;
+        private int lines;
 
         Tables(Kinds kinds, Rows rows) {
             this.kinds = kinds;
@@ -805,10 +802,9 @@ public final class MatchCompile {
 
         /** The table of the match is the whole pile. */
         void begin(int[] columns, int columnCount) {
-            int places = Math.min(columnCount, columns.length);
             top = NONE;
-            pile(0, places);
-            for (int place = 0; place < places; place++) {
+            pile(0, Math.min(columnCount, columns.length));
+            for (int place = 0; place < places && place < columns.length; place++) {
                 set(top + HEAD + place, columns[place]);
             }
             for (int row = 0; row < rows.count(); row++) {
@@ -827,14 +823,16 @@ public final class MatchCompile {
 
         void drop() {
             top = head(BELOW);
+            places = Math.max(head(PLACES), 0);
+            lines = Math.max(head(LINES), 0);
         }
 
         int placeCount() {
-            return head(PLACES);
+            return places;
         }
 
         int lineCount() {
-            return head(LINES);
+            return lines;
         }
 
         int openNode() {
@@ -851,11 +849,11 @@ public final class MatchCompile {
 
         /** Before a node is made of the table. False: TOO GREAT. */
         boolean splitEithers() {
-            if (placeCount() > MAX_PLACES || lineCount() > MAX_LINES) {
+            if (places > MAX_PLACES || lines > MAX_LINES) {
                 return false;
             }
-            for (int line = 0; line < lineCount(); line++) {
-                for (int place = 0; place < placeCount(); place++) {
+            for (int line = 0; line < lines; line++) {
+                for (int place = 0; place < places; place++) {
                     if (!splitAt(line, place)) {
                         return false;
                     }
@@ -866,7 +864,7 @@ public final class MatchCompile {
 
         /** The first place where the first line has a maker; NONE if it has ANY at all of them. */
         int firstTested() {
-            for (int place = 0; place < placeCount(); place++) {
+            for (int place = 0; place < places; place++) {
                 if (get(lineAt(0) + 1 + place) != ANY) {
                     return place;
                 }
@@ -876,6 +874,8 @@ public final class MatchCompile {
 
         /** The table waits for the branches of its TEST. */
         void keepFor(int node, int type) {
+            set(top + PLACES, places);
+            set(top + LINES, lines);
             set(top + NODE, node);
             set(top + TYPE, type);
             set(top + MAKER, NONE);
@@ -895,47 +895,44 @@ public final class MatchCompile {
 
         /** The branch's table comes onto the pile. False: TOO GREAT. */
         boolean openBranch(int maker, int tested) {
-            int parent = top;
-            int places = placeCount();
-            int lines = lineCount();
             int fields = kinds.fieldCount(maker);
             if (places - 1 + fields > MAX_PLACES) {
                 return false;
             }
-            int firstLine = lineAt(0);
+            int givenTypes = top + HEAD;
+            int givenPlaces = places;
+            int givenLines = lines;
+            int given = lineAt(0);
             pile(lineAt(lines), places - 1 + fields);
-            copyAround(parent + HEAD, top + HEAD, tested, places, fields);
+            copyAround(givenTypes, top + HEAD, tested, givenPlaces, fields);
             for (int field = 0; field < fields; field++) {
                 set(top + HEAD + tested + field, kinds.fieldType(maker, field));
             }
-            for (int line = 0; line < lines; line++) {
-                int from = firstLine + line * (places + 1);
-                int cell = get(from + 1 + tested);
+            for (int line = 0; line < givenLines; line++) {
+                int cell = get(given + 1 + tested);
                 if (cell == ANY || rows.signAt(cell) == maker) {
-                    int added = addLine(get(from));
-                    copyAround(from + 1, added + 1, tested, places, fields);
+                    int added = addLine(get(given));
+                    copyAround(given + 1, added + 1, tested, givenPlaces, fields);
                     putFields(added + 1 + tested, cell, fields);
                 }
+                given += givenPlaces + 1;
             }
             return true;
         }
 
-        private void pile(int start, int places) {
-            int below = top;
+        private void pile(int start, int placesThere) {
+            reserve(start + HEAD + placesThere);
+            set(start + BELOW, top);
             top = start;
-            reserve(start + HEAD + places);
-            set(start + BELOW, below);
-            set(start + PLACES, places);
-            set(start + LINES, 0);
-            keepFor(NONE, NONE);
+            places = placesThere;
+            lines = 0;
         }
 
         private int addLine(int row) {
-            int lines = lineCount();
             int line = lineAt(lines);
-            reserve(lineAt(lines + 1));
+            lines++;
+            reserve(lineAt(lines));
             set(line, row);
-            set(top + LINES, lines + 1);
             return line;
         }
 
@@ -944,13 +941,13 @@ public final class MatchCompile {
             int at = lineAt(line) + 1 + place;
             int either = get(at);
             for (int round = 0; round < MAX_LINES && isEither(either); round++) {
-                if (lineCount() >= MAX_LINES) {
+                if (lines >= MAX_LINES) {
                     return false;
                 }
                 doubleLine(line);
                 int first = either + 1;
                 set(at, cellOf(first));
-                set(at + placeCount() + 1, cellOf(rows.endAt(first)));
+                set(at + places + 1, cellOf(rows.endAt(first)));
                 either = get(at);
             }
             return true;
@@ -961,16 +958,17 @@ public final class MatchCompile {
         }
 
         private void doubleLine(int line) {
-            int lines = lineCount();
-            reserve(lineAt(lines + 1));
-            copy(lineAt(line), lineAt(line + 1), lineAt(lines) - lineAt(line));
-            set(top + LINES, lines + 1);
+            int from = lineAt(line);
+            int length = lineAt(lines) - from;
+            lines++;
+            reserve(lineAt(lines));
+            copy(from, lineAt(line + 1), length);
         }
 
         /** All but the tested place, with a gap for the fields in its stead. */
-        private void copyAround(int from, int to, int tested, int places, int fields) {
+        private void copyAround(int from, int to, int tested, int given, int fields) {
             copy(from, to, tested);
-            copy(from + tested + 1, to + tested + fields, places - tested - 1);
+            copy(from + tested + 1, to + tested + fields, given - tested - 1);
         }
 
         private void putFields(int to, int cell, int fields) {
@@ -990,7 +988,6 @@ public final class MatchCompile {
         }
 
         private int lineAt(int line) {
-            int places = placeCount();
             return top + HEAD + places + line * (places + 1);
         }
 
