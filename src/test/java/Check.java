@@ -11,11 +11,17 @@ final class Check {
     }
 
     private final String name;
+    private String within = "";
     private int wrong;
     private int made;
 
     Check(String name) {
         this.name = name;
+    }
+
+    /** What is told before each answer that is not as due, from now on. */
+    void within(String place) {
+        within = place;
     }
 
     static String tell(Call call) {
@@ -32,7 +38,7 @@ final class Check {
         if (!Objects.equals(got, String.valueOf(want))) {
             wrong++;
             if (wrong <= 20) {
-                System.out.println(what + " answered " + got + ", due is " + want);
+                System.out.println(within + what + " answered " + got + ", due is " + want);
             }
         }
     }
@@ -46,6 +52,10 @@ final class Check {
 
     int wrong() {
         return wrong;
+    }
+
+    int made() {
+        return made;
     }
 
     void end() {

@@ -1,92 +1,15 @@
 import java.util.Arrays;
-import java.util.StringJoiner;
 
 /** Each promise by itself: ordinary inputs, the edges that the document names, wrong inputs. */
-public final class PromiseTest {
-    private static final String STATE = "throws.IllegalStateException";
-    private static final String ARGUMENT = "throws.IllegalArgumentException";
-    private static final String INDEX = "throws.IndexOutOfBoundsException";
-    private static final String ELEMENT = "throws.NoSuchElementException";
-    private static final String GREAT = "throws.UnsupportedOperationException";
-    private static final int NONE = MatchCompile.NONE;
-    private static final int ANY = -1;
-    private static final int EITHER = -2;
-    private static final int MIN = Integer.MIN_VALUE;
-    private static final int MAX = Integer.MAX_VALUE;
-
+public final class PromiseTest extends Scenes {
     private static final Check CHECK = new Check("PromiseTest");
 
     private static void due(String what, Object want, Check.Call call) {
         CHECK.due(what, want, call);
     }
 
-    private static String about(MatchCompile x) {
-        StringJoiner all = new StringJoiner(" ");
-        for (int what = 0; what <= 6; what++) {
-            all.add(String.valueOf(x.about(what)));
-        }
-        return all.toString();
-    }
-
     private static void dueAbout(String when, String want, MatchCompile x) {
         due("about(0 .. 6) " + when, want, () -> about(x));
-    }
-
-    private static void signs(MatchCompile x, int... signs) {
-        for (int sign : signs) {
-            x.sign(sign);
-        }
-    }
-
-    private static int row(MatchCompile x, int... signs) {
-        signs(x, signs);
-        return x.row();
-    }
-
-    private static void give(MatchCompile x, int... makers) {
-        x.empty();
-        for (int maker : makers) {
-            x.give(maker);
-        }
-    }
-
-    /** Of a node: what 0 .. 4, the branches, and what 100 and 101. */
-    private static String node(MatchCompile x, int i) {
-        StringJoiner all = new StringJoiner(" ");
-        for (int what = 0; what <= 4; what++) {
-            all.add(String.valueOf(x.node(i, what)));
-        }
-        for (int branch = 0; branch < x.node(i, 4); branch++) {
-            all.add(String.valueOf(x.node(i, 5 + branch)));
-        }
-        return all + " | " + x.node(i, 100) + " " + x.node(i, 101);
-    }
-
-    private static String missingCase(MatchCompile x, int k) {
-        StringJoiner all = new StringJoiner(" ");
-        for (int i = 0; i < 500 && x.missingSign(k, i) != -3; i++) {
-            all.add(String.valueOf(x.missingSign(k, i)));
-        }
-        return all.toString();
-    }
-
-    /** Type 0 with the makers 0, zero, and 1, next (of one field). */
-    private static MatchCompile nat() {
-        MatchCompile x = new MatchCompile();
-        x.type();
-        x.maker(0, NONE, NONE, NONE);
-        x.maker(0, 0, NONE, NONE);
-        return x;
-    }
-
-    /** nat(), and type 1, empty, with the maker 2; type 0 has the dead makers 3 and 4 too. */
-    private static MatchCompile withDead() {
-        MatchCompile x = nat();
-        x.type();
-        x.maker(1, 0, 1, NONE);
-        x.maker(0, 1, NONE, NONE);
-        x.maker(0, 0, 0, 1);
-        return x;
     }
 
     private static void newObject() {
@@ -460,89 +383,17 @@ public final class PromiseTest {
         return signs;
     }
 
-    /**
-     * Types 0 to 3 are threes of the one before, type 4 is empty, type 3 has a dead maker 4 too, and
-     * type 5 has the maker 5, a two. Row 0 opens 12 places in column 0 (25 are left), and is lost at
-     * a dead maker in column 1; row 1 opens column 1.
-     */
-    private static MatchCompile manyPlaces(int third, int... column1) {
-        MatchCompile x = new MatchCompile();
-        for (int i = 0; i < 6; i++) {
-            x.type();
-        }
-        x.maker(0, NONE, NONE, NONE);
-        x.maker(1, 0, 0, 0);
-        x.maker(2, 1, 1, 1);
-        x.maker(3, 2, 2, 2);
-        x.maker(3, 4, NONE, NONE);
-        x.maker(5, 0, 0, NONE);
-        x.match(3, 3, third == NONE ? NONE : 5);
-        x.sign(3);
-        for (int i = 0; i < 3; i++) {
-            x.sign(2);
-            for (int j = 0; j < 3; j++) {
-                if (i == 2 && j == 2) {
-                    x.sign(ANY);
-                } else {
-                    signs(x, 1, ANY, ANY, ANY);
-                }
-            }
-        }
-        signs(x, 4, ANY);
-        if (third != NONE) {
-            x.sign(ANY);
-        }
-        x.row();
-        x.sign(ANY);
-        signs(x, column1);
-        if (third == 0) {
-            x.sign(ANY);
-        } else if (third == 1) {
-            signs(x, 5, ANY, ANY);
-        }
-        x.row();
-        return x;
-    }
-
-    private static final int[] SIX_OPENED = {3, 2, 1, -1, -1, -1, 1, -1, -1, -1, 1, -1, -1, -1, 2, -1, -1, -1, -1};
-    private static final int[] SEVEN_OPENED = {3, 2, 1, -1, -1, -1, 1, -1, -1, -1, 1, -1, -1, -1, 2, 1, -1, -1, -1, -1, -1, -1};
-
     private static void fortyPlaces() {
         MatchCompile x = manyPlaces(NONE, SEVEN_OPENED);
         due("40 places", 20, x::compile);
         due("the last TEST has 38", "2 1 38 34 1 19 | 17 2", () -> node(x, 18));
         due("a LEAF of 40", "1 1 -1 -1 -1 | 18 1", () -> node(x, 19));
         due("row 0 is idle, row 1 is not", true, () -> x.isIdle(0) && !x.isIdle(1));
-        MatchCompile y = manyPlaces(1, SIX_OPENED);
+        MatchCompile y = manyPlaces(5, SIX_OPENED, 5, ANY, ANY);
         due("39 places and a two: 40", 20, y::compile);
         due("its last TEST has 39", "2 5 39 38 1 19 | 17 2", () -> node(y, 18));
-        due("41 places", GREAT, manyPlaces(0, SEVEN_OPENED)::compile);
-        due("39 places, a two, and more: 42", GREAT, manyPlaces(1, SEVEN_OPENED)::compile);
-    }
-
-    /** Three types of 8 makers: 1 + 8 + 64 + 28 * 8 nodes, and one TEST of type 3 with as many branches as makers. */
-    private static MatchCompile manyNodes(int last) {
-        MatchCompile x = new MatchCompile();
-        for (int i = 0; i < 4; i++) {
-            x.type();
-        }
-        for (int i = 0; i < 24; i++) {
-            x.maker(i / 8, i == 16 ? 3 : NONE, NONE, NONE);
-        }
-        for (int i = 0; i < last; i++) {
-            x.maker(3, NONE, NONE, NONE);
-        }
-        x.match(0, 1, 2);
-        row(x, 0, 8, 16, 24);
-        row(x, 0, EITHER, 9, EITHER, 10, EITHER, 11, EITHER, 12, EITHER, 13, EITHER, 14, 15, 17);
-        for (int i = 1; i <= 2; i++) {
-            row(x, i, EITHER, 8, EITHER, 9, EITHER, 10, EITHER, 11, EITHER, 12, EITHER, 13, EITHER, 14, 15, 17);
-        }
-        row(x, 3, EITHER, 8, EITHER, 9, EITHER, 10, 11, 17);
-        for (int i = 4; i < 8; i++) {
-            row(x, i, 8, ANY);
-        }
-        return x;
+        due("41 places", GREAT, manyPlaces(5, SEVEN_OPENED, ANY)::compile);
+        due("39 places, a two, and more: 42", GREAT, manyPlaces(5, SEVEN_OPENED, 5, ANY, ANY)::compile);
     }
 
     private static void threeHundredNodes() {
@@ -561,52 +412,6 @@ public final class PromiseTest {
         CHECK.dueAct("another match of the object", "done", () -> y.match(0, NONE, NONE));
         row(y, ANY);
         due("is compiled", 1, y::compile);
-    }
-
-    /**
-     * Type 0 is plain, the types 1 to 4 are threes of the one before (makers 0 to 4), type 5 is empty,
-     * and the types 1 and 2 have the dead makers 5 and 6. Each row is lost at a dead maker, so that
-     * the tree is one way down of 294 TESTs.
-     */
-    private static MatchCompile deepTree() {
-        MatchCompile x = new MatchCompile();
-        for (int i = 0; i < 6; i++) {
-            x.type();
-        }
-        x.maker(0, NONE, NONE, NONE);
-        for (int i = 1; i <= 4; i++) {
-            x.maker(i, i - 1, i - 1, i - 1);
-        }
-        x.maker(1, 5, NONE, NONE);
-        x.maker(2, 5, NONE, NONE);
-        x.match(4, 4, 4);
-        int[] whole2 = {2, 1, 0, 0, 0, 1, 0, 0, 0, 1, 0, 0, 0};
-        for (int part = 0; part < 9; part++) {
-            anys(x, part / 3);
-            x.sign(4);
-            anys(x, part % 3);
-            x.sign(3);
-            signs(x, whole2);
-            signs(x, whole2);
-            signs(x, 6, ANY);
-            anys(x, 2 - part % 3 + 2 - part / 3);
-            x.row();
-        }
-        for (int column = 0; column < 3; column++) {
-            anys(x, column);
-            signs(x, 4, 3, ANY, ANY);
-            signs(x, whole2);
-            signs(x, 3, ANY, ANY, 2, 5, ANY, ANY, ANY);
-            anys(x, 1 + 2 - column);
-            x.row();
-        }
-        return x;
-    }
-
-    private static void anys(MatchCompile x, int count) {
-        for (int i = 0; i < count; i++) {
-            x.sign(ANY);
-        }
     }
 
     private static void deepTrees() {
