@@ -333,7 +333,9 @@ final class PromiseBounds extends Scenes {
         c.due("ANY for the first of EITHER", 4, () -> x.sign(ANY));
         refused(c, x, "sign(1) for the second of EITHER", ARGUMENT, () -> x.sign(1));
         c.due("ANY for the second of EITHER", 5, () -> x.sign(ANY));
-        refused(c, x, "sign(2) for column 1", ARGUMENT, () -> x.sign(2));
+        for (int sign : new int[] {2, 3, 4, 39, 40, MAX}) {
+            refused(c, x, "sign(" + sign + ") for column 1, of type 0", ARGUMENT, () -> x.sign(sign));
+        }
         c.due("sign(0) for column 1", 6, () -> x.sign(0));
         for (int sign : new int[] {0, 1, 2, 3}) {
             refused(c, x, "sign(" + sign + ") for a type without makers", ARGUMENT, () -> x.sign(sign));
@@ -702,6 +704,11 @@ final class PromiseBounds extends Scenes {
         for (int i : new int[] {4, 5, 39, 40, 339, 340, 1000, MAX}) {
             c.due("missingSign(0, " + i + ")", -3, () -> x.missingSign(0, i));
         }
+        MatchCompile longest = deepTree();
+        longest.compile();
+        // 294 TESTs have found a maker, and 24 places are left
+        c.due("the last sign of the longest case", ANY, () -> longest.missingSign(0, 317));
+        c.due("the sign behind it", -3, () -> longest.missingSign(0, 318));
         x.match(0, NONE, NONE);
         x.compile();
         c.due("missingSign(0, 0) of one column", ANY, () -> x.missingSign(0, 0));
@@ -824,7 +831,9 @@ final class PromiseBounds extends Scenes {
             refused(c, x, "give(" + maker + ") for column 0", ARGUMENT, () -> x.give(maker));
         }
         c.due("give(2) for column 0", 1, () -> x.give(2));
-        refused(c, x, "give(3) for field 0", ARGUMENT, () -> x.give(3));
+        for (int maker : new int[] {3, 4, 5, 39, 40, ANY, EITHER, MIN, MAX}) {
+            refused(c, x, "give(" + maker + ") for field 0, of type 0", ARGUMENT, () -> x.give(maker));
+        }
         c.due("give(0) for field 0", 2, () -> x.give(0));
         refused(c, x, "give(0) for field 1", ARGUMENT, () -> x.give(0));
         c.due("give(3) for field 1", 3, () -> x.give(3));
@@ -935,6 +944,17 @@ final class PromiseBounds extends Scenes {
         c.due("values in hand", 60, () -> x.about(5));
         give(x, 0);
         c.due("tests() until the first FAIL", 1, x::tests);
+        MatchCompile y = nat();
+        y.maker(0, 0, 0, 0);
+        y.match(0, 0, 0);
+        row(y, ANY, 2, ANY, 0, 1, ANY, 1, 1, 0);
+        y.compile();
+        give(y, 1, 0, 2, 0, 0, 1, 1, 0, 1, 1, 0);
+        c.due("tests() of all places that are tested", 6, y::tests);
+        give(y, 1, 0, 2, 1, 0, 0, 1, 0, 1, 1, 1, 0);
+        c.due("tests() until the last place's FAIL", 6, y::tests);
+        give(y, 2, 1, 0, 0, 0, 2, 1, 0, 1, 0, 1, 0, 1, 1, 0);
+        c.due("tests() until a field's FAIL", 2, y::tests);
     }
 
     @Says(in = "Promise 15", text = "Exceptions likewise")

@@ -304,6 +304,13 @@ final class TermBounds extends Scenes {
         dueAnswer(c, NONE, x, 2, 0, 1, 2, 0, 0, 1);
         dueAnswer(c, NONE, x, 0);
         dueAnswer(c, NONE, x, 1);
+        MatchCompile deep = nat();
+        deep.match(0, NONE, NONE);
+        int[] thirtyNine = new int[40];
+        Arrays.fill(thirtyNine, 0, 39, 1);
+        row(deep, thirtyNine);
+        dueAnswer(c, 0, deep, thirtyNine);
+        dueAnswer(c, NONE, deep, Arrays.copyOfRange(thirtyNine, 1, 40));
     }
 
     @Says(in = "Terms", text = "EITHER of two patterns, which takes what one of them takes.")
@@ -323,9 +330,11 @@ final class TermBounds extends Scenes {
         x.match(0, NONE, NONE);
         int[] nineteen = new int[39];
         Arrays.fill(nineteen, 0, 19, EITHER);
-        Arrays.fill(nineteen, 19, 38, 1);
+        Arrays.fill(nineteen, 19, 39, 1);
+        nineteen[19] = 0;
         nineteen[38] = 2;
         row(x, nineteen);
+        dueAnswer(c, 0, x, 0);
         dueAnswer(c, 0, x, 1);
         dueAnswer(c, 0, x, 2);
         dueAnswer(c, NONE, x, 3);
