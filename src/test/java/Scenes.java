@@ -180,19 +180,26 @@ abstract class Scenes {
      * the tree is one way down of 294 TESTs.
      */
     static MatchCompile deepTree() {
+        return deepTree(false);
+    }
+
+    /** Wrapped: column 0 is of type 6, with the maker 7 over type 4, which all rows have, and the plain maker 8. */
+    static MatchCompile deepTree(boolean wrapped) {
         MatchCompile x = new MatchCompile();
-        for (int i = 0; i < 6; i++) {
-            x.type();
-        }
+        types(x, 7);
         x.maker(0, NONE, NONE, NONE);
         for (int i = 1; i <= 4; i++) {
             x.maker(i, i - 1, i - 1, i - 1);
         }
         x.maker(1, 5, NONE, NONE);
         x.maker(2, 5, NONE, NONE);
-        x.match(4, 4, 4);
+        x.maker(6, 4, NONE, NONE);
+        x.maker(6, NONE, NONE, NONE);
+        x.match(wrapped ? 6 : 4, 4, 4);
+        int[] wrap = wrapped ? new int[] {7} : new int[0];
         int[] whole2 = {2, 1, 0, 0, 0, 1, 0, 0, 0, 1, 0, 0, 0};
         for (int part = 0; part < 9; part++) {
+            signs(x, wrap);
             anys(x, part / 3);
             x.sign(4);
             anys(x, part % 3);
@@ -204,6 +211,7 @@ abstract class Scenes {
             x.row();
         }
         for (int column = 0; column < 3; column++) {
+            signs(x, wrap);
             anys(x, column);
             signs(x, 4, 3, ANY, ANY);
             signs(x, whole2);

@@ -646,6 +646,11 @@ final class TermBounds extends Scenes {
         c.due("compile() of 294 TESTs, one below the other", 295, x::compile);
         c.due("the last is a branch of the one before", 293, () -> x.node(294, 100));
         c.due("and a FAIL", 0, () -> x.node(294, 0));
+        MatchCompile y = deepTree(true);
+        c.due("compile() of a branch as deep, and a last one", 297, y::compile);
+        c.due("the deepest node", "0 -1 -1 -1 -1 | 294 1", () -> node(y, 295));
+        c.due("the last branch of node 0", "0 -1 -1 -1 -1 | 0 8", () -> node(y, 296));
+        c.due("its missing case", "8 -1 -1", () -> missingCase(y, 1));
     }
 
     @Says(in = "Terms", text = "Fewer makers than two that are not DEAD: it is a TEST all the same")
