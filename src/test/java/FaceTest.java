@@ -1,13 +1,18 @@
+import java.io.IOException;
 import java.lang.reflect.Constructor;
 import java.lang.reflect.Field;
 import java.lang.reflect.Method;
 import java.lang.reflect.Modifier;
+import java.nio.file.Files;
+import java.nio.file.Path;
 import java.util.Arrays;
 import java.util.Set;
 import java.util.TreeSet;
+import java.util.regex.Matcher;
+import java.util.regex.Pattern;
 import java.util.stream.Collectors;
 
-/** The face is the document's and no more (rule 1 of LANGUAGE.md). */
+/** The face is the document's and no more (rule 1 of LANGUAGE.md); run from the project's root. */
 public final class FaceTest {
     private static final String[] METHODS = {
         "int type() throws IllegalStateException",
@@ -38,7 +43,27 @@ public final class FaceTest {
             + names(method.getParameterTypes()) + ")" + (thrown.isEmpty() ? "" : " throws " + thrown);
     }
 
-    public static void main(String[] args) {
+    /** The methods of the document's section 'The public face', without the parameters' names. */
+    private static Set<String> documentsMethods() throws IOException {
+        String document = Files.readString(Path.of("../shared/DOC.md"));
+        Set<String> methods = new TreeSet<>();
+        Matcher method = Pattern.compile("(?m)^    public (\\w+ \\w+\\(.*);$").matcher(document);
+        while (method.find()) {
+            methods.add(method.group(1).replaceAll("\\bint \\w+(?=[,)])", "int"));
+        }
+        return methods;
+    }
+
+    /** Rule 11 of LANGUAGE.md. */
+    private static void countParts(Check check, Class<?> each) {
+        long fields = Arrays.stream(each.getDeclaredFields()).filter(f -> !Modifier.isStatic(f.getModifiers())).count();
+        check.due(each + " has at most twenty fields", true, () -> fields <= 20);
+        for (Method method : each.getDeclaredMethods()) {
+            check.due(method + " takes at most seven parameters", true, () -> method.getParameterCount() <= 7);
+        }
+    }
+
+    public static void main(String[] args) throws IOException {
         Check check = new Check("FaceTest");
         Class<?> face = MatchCompile.class;
         check.due("the class is public and final", true,
@@ -55,6 +80,8 @@ public final class FaceTest {
             }
         }
         check.due("methods that are not private", new TreeSet<>(Arrays.asList(METHODS)), () -> open);
+        Set<String> inDocument = documentsMethods();
+        check.due("the document's methods", new TreeSet<>(Arrays.asList(METHODS)), () -> inDocument);
 
         Set<String> fields = new TreeSet<>();
         for (Field field : face.getDeclaredFields()) {
@@ -68,7 +95,9 @@ public final class FaceTest {
         Constructor<?>[] made = face.getDeclaredConstructors();
         check.due("constructors", "[public MatchCompile()]", () -> Arrays.toString(made));
 
+        countParts(check, face);
         for (Class<?> inside : face.getDeclaredClasses()) {
+            countParts(check, inside);
             check.due(inside + " is static", true, () -> Modifier.isStatic(inside.getModifiers()));
             for (Method method : inside.getDeclaredMethods()) {
                 check.due(inside + " bears " + method.getName(), false, () -> publicNames.contains(method.getName()));

@@ -4,6 +4,9 @@ import java.util.List;
 /** Runs of calls, drawn by a fixed row of numbers, on the class and on the model: all answers are the same. */
 public final class ModelTest {
     private static final int RUNS = 2000;
+    private static final int CALLS = 512;
+    private static final int[] FAR_OFF = {Integer.MIN_VALUE, Integer.MIN_VALUE + 1, -1_000_000, -101, -4, -3, 39, 40, 60, 99, 100,
+        101, 102, 300, 1_000_000, Integer.MAX_VALUE - 1, Integer.MAX_VALUE};
 
     private long seed;
     private final Check check;
@@ -249,12 +252,85 @@ public final class ModelTest {
         aboutAll();
     }
 
+    private int any(int bound) {
+        return draw(12) == 0 ? FAR_OFF[draw(FAR_OFF.length)] : draw(bound + 2) - 1;
+    }
+
+    private void empty() {
+        both("empty()", () -> {
+            real.empty();
+            return "done";
+        }, () -> {
+            model.empty();
+            return "done";
+        });
+    }
+
+    private void askAnything() {
+        int a = any(14);
+        int b = any(14);
+        both("node(" + a + "," + b + ")", () -> real.node(a, b), () -> model.node(a, b));
+        both("missingSign(" + a + "," + b + ")", () -> real.missingSign(a, b), () -> model.missingSign(a, b));
+        both("isIdle(" + a + ")", () -> real.isIdle(a), () -> model.isIdle(a));
+        both("isEmpty(" + a + ")", () -> real.isEmpty(a), () -> model.isEmpty(a));
+        both("about(" + a + ")", () -> real.about(a), () -> model.about(a));
+        both("missing()", () -> real.missing(), () -> model.missing());
+    }
+
+    private int anySign(List<Integer> hand) {
+        boolean fits = model.columns != null && draw(8) != 0;
+        return fits ? fitting(hand, draw(3) != 0) : any(12);
+    }
+
+    private void callAnything() {
+        int kind = draw(100);
+        if (kind < 2) {
+            type();
+        } else if (kind < 4) {
+            maker(any(4), any(4), any(4), any(4));
+        } else if (kind < 7) {
+            match(any(4), any(4), any(4));
+        } else if (kind < 45) {
+            sign(draw(3) == 0 ? -1 - draw(2) : anySign(model.signs));
+        } else if (kind < 58) {
+            row();
+        } else if (kind < 65) {
+            both("compile()", () -> real.compile(), () -> model.compile());
+        } else if (kind < 85) {
+            give(anySign(model.values));
+        } else if (kind < 90) {
+            ask();
+        } else if (kind < 92) {
+            empty();
+        } else {
+            askAnything();
+        }
+    }
+
+    /** Calls of all kinds in any order, with arguments far off among them. */
+    private void runOfAnything(int number) {
+        seed = number * 104729L + 71;
+        draw(2);
+        real = new MatchCompile();
+        model = new Model();
+        told = "run of anything " + number + ": ";
+        if (draw(2) == 0) {
+            addTypes();
+        }
+        for (int call = 0; call < CALLS; call++) {
+            callAnything();
+        }
+        aboutAll();
+        dumpTree();
+    }
+
     public static void main(String[] args) {
         Check check = new Check("ModelTest");
         ModelTest test = new ModelTest(check);
         int runs = args.length > 0 ? Integer.parseInt(args[0]) : RUNS;
         for (int number = 0; number < runs && check.wrong() < 20; number++) {
             test.run(number);
+            test.runOfAnything(number);
         }
         System.out.println("values asked " + test.seen[0] + ", trees too great " + test.seen[1] + ", trees " + test.seen[2]
             + ", most nodes " + test.seen[3] + ", lines " + test.seen[4] + ", places " + test.seen[5] + ", depth " + test.seen[6]);
